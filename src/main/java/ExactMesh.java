@@ -226,7 +226,7 @@ public final class ExactMesh {
         }
 
         private static long mixed(long a, long b) {
-            return upper(a) * lower(b) + lower(a) * upper(b);
+            return (a >> LIMB_BITS) * (b & LIMB_MASK) + (a & LIMB_MASK) * (b >> LIMB_BITS);
         }
 
         private static long upper(long a) {

@@ -352,6 +352,13 @@ public final class PromiseTest {
         ExactMesh most = withVertices(0, 0, 100, 0, 50, 90, 50, 20, 40, 30, 60, 30, 45, 40, 55, 41, 48, 25, 53, 27, 50, 33, 49, 60);
         due("as many as 12 vertices can have", most.build(false, false), 19);
         due("as many then", most.triangles(), 19);
+        most.hole(-1, -1);
+        due("none of them taken out", most.build(true, false), 19);
+        most.hole(50, 30);
+        due("all of them taken out", most.build(true, false), 0);
+        due("all of them open to the outside", most.build(false, true), 0);
+        addSegments(most, 0, 1, 1, 2, 2, 0);
+        due("all of them walled in", most.build(false, true), 19);
     }
 
     private static void promise9Corner() {
